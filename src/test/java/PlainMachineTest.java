@@ -5,28 +5,106 @@ import java.util.List;
 // follows the document's words step by step and knows of no traces.
 public final class PlainMachineTest {
     private static final int OBJECTS = 40000;
+    // Nothing is promised after so many calls on one object.
+    private static final int MOST_CALLS = 512;
+    private static final int CALLS_OF_A_LOOK = 47;
     private static final int[] THRESHOLDS = {1, 2, 3, 4, 5, 0, -7, 6, Integer.MAX_VALUE};
     private static final int[] ODD = {-1, 6, 23, 24, 300, 301, 512, Integer.MIN_VALUE, Integer.MAX_VALUE};
 
     private static long seed = 20261115;
 
+    // Loops that are hard on traces, each an array of op, x, y, z. Variables 0 to 2 are put to 0, 1 and 10 first.
+    private static final int[][][] PROGRAMS = {
+        // The sorts go round, so that a turn ends with other sorts than it began with.
+        {{1, 3, 1, 0}, {3, 4, 0, 0}, {3, 0, 3, 0}, {3, 3, 5, 0}, {3, 5, 4, 0}, {10, 5, 0, 0}, {9, 1, 0, 0}},
+        // Where the loop is left, variable 5 has another sort than at either end of a turn.
+        {{0, 5, 7, 0}, {4, 0, 0, 1}, {1, 5, 1, 0}, {6, 3, 0, 2}, {8, 3, 7, 0}, {2, 5, 0, 0}, {9, 0, 0, 0}},
+        // The loop is left for the other one while it is recorded, and that one goes on for long.
+        {{9, 20, 0, 0}, {4, 0, 0, 1}, {5, 4, 0, 1}, {4, 5, 4, 0}, {3, 4, 5, 0}, {9, 1, 0, 0}, {2, 0, 0, 0},
+            {2, 0, 0, 0}, {2, 0, 0, 0}, {2, 0, 0, 0}, {2, 0, 0, 0}, {2, 0, 0, 0}, {2, 0, 0, 0}, {2, 0, 0, 0},
+            {2, 0, 0, 0}, {2, 0, 0, 0}, {2, 0, 0, 0}, {2, 0, 0, 0}, {2, 0, 0, 0}, {2, 0, 0, 0}, {4, 0, 0, 1}, {7, 3, 0, 1},
+            {8, 3, 1, 0}, {9, 20, 0, 0}},
+        // A loop within a loop: the turns of the outer one are of many lengths.
+        {{0, 4, 0, 0}, {4, 0, 0, 1}, {4, 4, 4, 1}, {10, 4, 0, 0}, {6, 3, 4, 0}, {8, 3, 7, 0}, {9, 2, 0, 0},
+            {6, 3, 0, 2}, {8, 3, 10, 0}, {9, 0, 0, 0}, {10, 3, 0, 0}},
+        // The two ways through the loop take turns.
+        {{1, 3, 0, 0}, {1, 4, 1, 0}, {10, 3, 0, 0}, {8, 3, 6, 0}, {1, 3, 0, 0}, {9, 2, 0, 0}, {4, 3, 3, 4},
+            {5, 0, 0, 1}, {9, 2, 0, 0}},
+        // The ints come to a FAULT in the loop once a flag is moved among them.
+        {{4, 0, 0, 1}, {6, 3, 0, 2}, {8, 3, 4, 0}, {9, 0, 0, 0}, {3, 1, 3, 0}, {9, 0, 0, 0}},
+        // Nothing but a jump to itself, and the same with UNLESS.
+        {{9, 0, 0, 0}},
+        {{8, 3, 0, 0}},
+    };
+
     public static void main(String[] args) {
+        runPrograms();
+        runObjects();
+    }
+
+    private static void runPrograms() {
+        int[] sizes = {1, 2, 3, 5, 7, 16, 31, 64, 100, 299, 300};
+        for (int program = 0; program < PROGRAMS.length; program++) {
+            for (int threshold : THRESHOLDS) {
+                for (int size : sizes) {
+                    String wrong = runProgram(PROGRAMS[program], threshold, size);
+                    if (wrong != null) {
+                        System.out.println("program " + program + ", threshold " + threshold + ", run(" + size + "): "
+                            + wrong);
+                        System.exit(1);
+                    }
+                }
+            }
+        }
+    }
+
+    private static String runProgram(int[][] program, int threshold, int size) {
+        TypedTraces x = new TypedTraces(threshold);
+        Plain plain = new Plain();
+        int[] values = {0, 1, 10};
+        for (int v = 0; v < values.length; v++) {
+            x.put(v, values[v]);
+            plain.put(v, values[v]);
+        }
+        for (int[] each : program) {
+            x.emit(each[0], each[1], each[2], each[3]);
+            plain.emit(each[0], each[1], each[2], each[3]);
+        }
+        int runs = Math.min(150, 1000 / size);
+        for (int i = 0; i < runs; i++) {
+            int got = x.run(size);
+            int want = plain.run(size);
+            if (got != want || x.place() != plain.place || (i % 60 == 59 && difference(x, plain) != null)) {
+                return "after " + (i + 1) + " runs answered " + got + ", due is " + want + "; " + difference(x, plain);
+            }
+        }
+        return difference(x, plain);
+    }
+
+    private static void runObjects() {
         int longRuns = 0;
         for (int object = 0; object < OBJECTS; object++) {
             TypedTraces x = new TypedTraces(THRESHOLDS[object % THRESHOLDS.length]);
             Plain plain = new Plain();
             List<String> calls = new ArrayList<>();
-            int most = object % 50 == 0 ? 400 : 40;
-            for (int i = 0; i < most; i++) {
-                String wrong = object % 3 == 0 ? anyCall(x, plain, calls) : loopCall(x, plain, calls, i);
-                if (wrong == null) {
+            int seldom = object % 5 == 0 ? 60 : 8;
+            String wrong = null;
+            int made = 0;
+            for (int i = 0; wrong == null && made < MOST_CALLS - 2 * CALLS_OF_A_LOOK; i++) {
+                wrong = object % 3 == 0 ? anyCall(x, plain, calls) : loopCall(x, plain, calls, i, object % 3 == 1);
+                made++;
+                if (wrong == null && below(seldom) == 0) {
                     wrong = difference(x, plain);
+                    made += CALLS_OF_A_LOOK;
                 }
-                if (wrong != null) {
-                    calls.forEach(System.out::println);
-                    System.out.println("object " + object + ", call " + i + ": " + wrong);
-                    System.exit(1);
-                }
+            }
+            if (wrong == null) {
+                wrong = difference(x, plain);
+            }
+            if (wrong != null) {
+                calls.forEach(System.out::println);
+                System.out.println("object " + object + ": " + wrong);
+                System.exit(1);
             }
             longRuns += plain.allSteps > 100 ? 1 : 0;
         }
@@ -66,7 +144,8 @@ public final class PlainMachineTest {
     }
 
     // First three ints and two flags, then a program of many loops, then runs with changes now and then in between.
-    private static String loopCall(TypedTraces x, Plain plain, List<String> calls, int i) {
+    // The programs without sums never FAULT, and their sorts change more.
+    private static String loopCall(TypedTraces x, Plain plain, List<String> calls, int i, boolean sums) {
         if (i < 3) {
             int value = below(9) - 4;
             return same("put(" + i + ", " + value + ")", x.put(i, value), plain.put(i, value), calls);
@@ -78,6 +157,9 @@ public final class PlainMachineTest {
         }
         if (i == 5) {
             return same("run(2)", x.run(2), plain.run(2), calls);
+        }
+        if (i < 18 && !sums) {
+            return emit(x, plain, calls, chosen(0, 1, 2, 3, 3, 3, 7, 7, 8, 8, 9, 10), 14);
         }
         if (i < 18) {
             int op = chosen(0, 1, 2, 3, 3, 4, 4, 4, 5, 5, 6, 6, 7, 7, 8, 8, 8, 9, 9, 10);
