@@ -10,7 +10,7 @@ import java.util.TreeSet;
 public final class FaceTest {
     private static int wrong = 0;
 
-    public static void main(String[] args) {
+    public static void main(String[] args) throws IllegalAccessException {
         due("class", Modifier.toString(TypedTraces.class.getModifiers()), "public final");
         due("constructors", constructors(), Set.of("public TypedTraces(int)"));
         due("methods", methods(), Set.of(
@@ -26,8 +26,23 @@ public final class FaceTest {
             "public int TypedTraces.value(int)",
             "public int TypedTraces.printed()",
             "public long TypedTraces.output(int)"));
-        due("constants", constants(), Set.of("LET", "FLAG", "VOID", "MOVE", "ADD", "SUB", "LESS", "SAME", "UNLESS",
-            "JUMP", "PRINT", "READY", "ENDED", "FAULT", "BAD", "FULL"));
+        due("constants", constants(), Set.of(
+            "public static final int TypedTraces.LET = 0",
+            "public static final int TypedTraces.FLAG = 1",
+            "public static final int TypedTraces.VOID = 2",
+            "public static final int TypedTraces.MOVE = 3",
+            "public static final int TypedTraces.ADD = 4",
+            "public static final int TypedTraces.SUB = 5",
+            "public static final int TypedTraces.LESS = 6",
+            "public static final int TypedTraces.SAME = 7",
+            "public static final int TypedTraces.UNLESS = 8",
+            "public static final int TypedTraces.JUMP = 9",
+            "public static final int TypedTraces.PRINT = 10",
+            "public static final int TypedTraces.READY = 0",
+            "public static final int TypedTraces.ENDED = 1",
+            "public static final int TypedTraces.FAULT = 2",
+            "public static final int TypedTraces.BAD = -1",
+            "public static final int TypedTraces.FULL = -2"));
         due("nested classes", TypedTraces.class.getDeclaredClasses().length, 0);
         checkFields();
         checkPrivateMethods();
@@ -62,12 +77,11 @@ public final class FaceTest {
         return found;
     }
 
-    private static Set<String> constants() {
+    private static Set<String> constants() throws IllegalAccessException {
         Set<String> found = new TreeSet<>();
         for (Field each : TypedTraces.class.getDeclaredFields()) {
             if (!Modifier.isPrivate(each.getModifiers())) {
-                due(each.getName(), each.toString(), "public static final int TypedTraces." + each.getName());
-                found.add(each.getName());
+                found.add(each + " = " + (Modifier.isStatic(each.getModifiers()) ? each.get(null) : "no constant"));
             }
         }
         return found;
