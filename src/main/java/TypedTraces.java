@@ -432,7 +432,8 @@ public final class TypedTraces {
     // Where a guard fails, its UNLESS has been executed all the same, the other way: it is among the steps answered.
     private int runTrace(int start) {
         int first = start * LONGEST_TURN;
-        for (int c = first; c < first + turnCodes[start]; c++) {
+        int end = first + turnCodes[start];
+        for (int c = first; c < end; c++) {
             if (kinds[c] != GUARD) {
                 runCode(c);
             } else if (numbers[codeV[c]] != codeA[c]) {

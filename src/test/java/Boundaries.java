@@ -1,3 +1,4 @@
+import java.lang.reflect.InvocationTargetException;
 import java.lang.reflect.Method;
 import java.util.Arrays;
 import java.util.Comparator;
@@ -39,7 +40,7 @@ abstract class Boundaries {
     private static String running = "";
     private static int wrong = 0;
 
-    static void runAll(Class<?> tests) throws ReflectiveOperationException {
+    static void runAll(Class<?> tests) throws IllegalAccessException {
         Method[] methods = tests.getDeclaredMethods();
         Arrays.sort(methods, Comparator.comparing(Method::getName));
         int ran = 0;
@@ -48,9 +49,9 @@ abstract class Boundaries {
             if (sentence == null) {
                 continue;
             }
+            running = each.getName() + ", " + sentence.in() + " \"" + sentence.words() + "\"";
             for (int threshold = 1; threshold <= 5; threshold++) {
-                running = each.getName() + ", " + sentence.in() + " \"" + sentence.words() + "\"";
-                each.invoke(null, threshold);
+                runOne(each, threshold);
             }
             ran++;
         }
@@ -61,17 +62,29 @@ abstract class Boundaries {
         System.out.println("all answers are as due in " + ran + " tests");
     }
 
-    static void due(Object got, Object want) {
-        if (got.equals(want)) {
-            return;
+    // A call that throws ends its own test alone, so that the others still tell what they find.
+    private static void runOne(Method test, int threshold) throws IllegalAccessException {
+        try {
+            test.invoke(null, threshold);
+        } catch (InvocationTargetException thrown) {
+            tell("thrown was " + thrown.getCause());
         }
+    }
+
+    private static void tell(String found) {
         wrong++;
         System.out.println(running + ":");
         List<String> calls = Machine.latestCalls();
         for (int i = Math.max(0, calls.size() - CALLS_TOLD); i < calls.size(); i++) {
             System.out.println("    " + calls.get(i));
         }
-        System.out.println("  found " + got + ", due is " + want);
+        System.out.println("  " + found);
+    }
+
+    static void due(Object got, Object want) {
+        if (!got.equals(want)) {
+            tell("found " + got + ", due is " + want);
+        }
     }
 
     static void due(long got, long want) {

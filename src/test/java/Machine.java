@@ -1,8 +1,8 @@
 import java.util.ArrayList;
 import java.util.List;
 
-// An object under test that remembers its calls: a wrong answer is told with the run that led to it, and no test leans on
-// a call for which the document promises nothing.
+// An object under test that remembers its calls: a wrong answer is told with the run that led to it, and no test leans
+// on a call for which the document promises nothing.
 final class Machine {
     private static final int MOST_CALLS = 512;
 

@@ -1,23 +1,42 @@
 // The sentences of promises 1 and 4 to 14 that name a boundary case, and the number of calls that an object is for.
 public final class MachineBoundariesTest extends Boundaries {
-    public static void main(String[] args) throws ReflectiveOperationException {
+    public static void main(String[] args) throws IllegalAccessException {
         runAll(MachineBoundariesTest.class);
     }
 
     @Sentence(in = "Promise 1", words = "threshold, clamped into 1..5, shows in no answer.")
     static void thresholdShowsInNoAnswer(int threshold) {
         int[] others = {MIN, -65536, -1, 0, 1, 2, 3, 4, 5, 6, 7, 256, 65536, MAX};
+        int[] sizes = {1, 4, 5, 7, 41, 300};
         for (int other : others) {
-            int[] sizes = {1, 4, 5, 7, 41, 300};
             for (int size : sizes) {
-                Machine got = counting(other);
-                Machine want = counting(threshold);
-                for (int i = 0; i < 5; i++) {
-                    due(got.run(size), want.run(size));
-                    due(got.look(), want.look());
-                }
+                dueAlike(counting(other), counting(threshold), size);
+                dueAlike(turningSorts(other), turningSorts(threshold), size);
             }
         }
+    }
+
+    private static void dueAlike(Machine got, Machine want, int size) {
+        for (int i = 0; i < 5; i++) {
+            due(got.run(size), want.run(size));
+            due(got.look(), want.look());
+        }
+    }
+
+    // An int, a flag and nothing go round in three variables: only every third turn of the loop has the same sorts.
+    private static Machine turningSorts(int threshold) {
+        Machine m = new Machine(threshold);
+        m.put(0, 8);
+        m.emit(FLAG, 1, 1, 0);
+        m.emit(MOVE, 3, 0, 0);
+        m.emit(MOVE, 0, 1, 0);
+        m.emit(MOVE, 1, 2, 0);
+        m.emit(MOVE, 2, 3, 0);
+        m.emit(UNLESS, 0, 7, 0);
+        m.emit(PRINT, 1, 0, 0);
+        m.emit(SAME, 4, 1, 4);
+        m.emit(JUMP, 1, 0, 0);
+        return m;
     }
 
     @Sentence(in = "Promise 1", words = "No instructions")

@@ -27,6 +27,8 @@ public final class PlainMachineTest {
         // A loop within a loop: the turns of the outer one are of many lengths.
         {{0, 4, 0, 0}, {4, 0, 0, 1}, {4, 4, 4, 1}, {10, 4, 0, 0}, {6, 3, 4, 0}, {8, 3, 7, 0}, {9, 2, 0, 0},
             {6, 3, 0, 2}, {8, 3, 10, 0}, {9, 0, 0, 0}, {10, 3, 0, 0}},
+        // The turns of the outer loop are longer than a trace, and the inner loop's trace lies right behind.
+        {{0, 4, 0, 0}, {4, 4, 4, 1}, {6, 3, 2, 4}, {8, 3, 1, 0}, {8, 5, 0, 0}},
         // The two ways through the loop take turns.
         {{1, 3, 0, 0}, {1, 4, 1, 0}, {10, 3, 0, 0}, {8, 3, 6, 0}, {1, 3, 0, 0}, {9, 2, 0, 0}, {4, 3, 3, 4},
             {5, 0, 0, 1}, {9, 2, 0, 0}},

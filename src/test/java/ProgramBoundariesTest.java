@@ -4,7 +4,7 @@ public final class ProgramBoundariesTest extends Boundaries {
     // All ops that replace may deal with.
     private static final int[] PLAIN_OPS = {LET, FLAG, VOID, MOVE, UNLESS, JUMP, PRINT};
 
-    public static void main(String[] args) throws ReflectiveOperationException {
+    public static void main(String[] args) throws IllegalAccessException {
         runAll(ProgramBoundariesTest.class);
     }
 

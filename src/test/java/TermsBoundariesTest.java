@@ -2,7 +2,7 @@
 public final class TermsBoundariesTest extends Boundaries {
     private static final int[][] INTS = {intOf(MIN), intOf(-1), intOf(0), intOf(1), intOf(MAX)};
 
-    public static void main(String[] args) throws ReflectiveOperationException {
+    public static void main(String[] args) throws IllegalAccessException {
         runAll(TermsBoundariesTest.class);
     }
 
