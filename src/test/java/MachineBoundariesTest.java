@@ -1,4 +1,5 @@
-// The sentences of promises 1 and 4 to 14 that name a boundary case, and the number of calls that an object is for.
+// The sentences of promises 1 and 4 to 14, on either side of the boundaries that they name, and the number of calls that
+// an object is for.
 public final class MachineBoundariesTest extends Boundaries {
     public static void main(String[] args) throws IllegalAccessException {
         runAll(MachineBoundariesTest.class);
@@ -377,7 +378,8 @@ public final class MachineBoundariesTest extends Boundaries {
         }
     }
 
-    @Sentence(in = "Promise 10", words = "0 nothing, 1 int, 2 flag; BAD for v outside 0..5.")
+    @Sentence(in = "Promise 10",
+        words = "The sort of a variable's value: 0 nothing, 1 int, 2 flag; BAD for v outside 0..5.")
     static void sortInsideAndOutside0To5(int threshold) {
         int[][] values = {NOTHING, intOf(0), FALSE, TRUE, intOf(2), intOf(-1)};
         int[] sorts = {0, 1, 2, 2, 1, 1};
@@ -438,6 +440,35 @@ public final class MachineBoundariesTest extends Boundaries {
         // A FAULT or the end adds no value, and none is taken away.
         due(ended(threshold).printed(), 10);
         due(faulted(threshold).printed(), 10);
+    }
+
+    @Sentence(in = "Promise 13", words = "Value k of the output, from 0")
+    static void outputIsInTheOrderOfPrinting(int threshold) {
+        // An int, a flag and nothing in turn: each is kept as it was when it was printed.
+        Machine m = new Machine(threshold);
+        m.emit(ADD, 0, 0, 1);
+        m.emit(PRINT, 0, 0, 0);
+        m.emit(LESS, 3, 0, 2);
+        m.emit(PRINT, 3, 0, 0);
+        m.emit(VOID, 3, 0, 0);
+        m.emit(PRINT, 3, 0, 0);
+        m.emit(JUMP, 0, 0, 0);
+        m.put(0, -4);
+        m.put(1, 1);
+        m.put(2, 0);
+        due(m.run(7 * 8), READY);
+        due(m.printed(), 24);
+        for (int turn = 0; turn < 8; turn++) {
+            int number = turn - 3;
+            due(m.output(3 * turn), 4L * number + 1);
+            due(m.output(3 * turn + 1), number < 0 ? 6 : 2);
+            due(m.output(3 * turn + 2), 0);
+        }
+        m.put(0, 1000);
+        due(m.run(300), READY);
+        due(m.output(0), -11);
+        due(m.output(21), 17);
+        due(m.output(22), 2);
     }
 
     @Sentence(in = "Promise 13", words = "as 4 * (the int, or 1 for the flag true, else 0) + its sort, as a long")

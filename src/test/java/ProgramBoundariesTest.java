@@ -1,4 +1,4 @@
-// The sentences of promises 2 and 3 that name a boundary case.
+// The sentences of promises 2 and 3, on either side of the boundaries that they name.
 public final class ProgramBoundariesTest extends Boundaries {
     private static final int[] ANY = {MIN, -1, 0, 5, 6, 23, 24, MAX};
     // All ops that replace may deal with.
@@ -249,6 +249,22 @@ public final class ProgramBoundariesTest extends Boundaries {
         due(m.output(8), 6);
         due(m.output(18), 6);
         due(m.count(), 41 + 52);
+    }
+
+    @Sentence(in = "Promise 3",
+        words = "which must not be ADD, SUB, LESS or SAME, by an instruction that is not one of these either.")
+    static void replaceOfEachOpByEachOp(int threshold) {
+        for (int old = 0; old <= 10; old++) {
+            for (int op = 0; op <= 10; op++) {
+                Machine m = new Machine(threshold);
+                m.emit(old, 0, 0, 0);
+                boolean refused = hasThreeOperands(old) || hasThreeOperands(op);
+                due(m.replace(0, op, 0, 0), refused ? BAD : 0);
+                // Once replaced, it is the new op that counts.
+                due(m.replace(0, ADD, 0, 0), BAD);
+                due(m.replace(0, PRINT, 0, 0), hasThreeOperands(old) ? BAD : 0);
+            }
+        }
     }
 
     @Sentence(in = "Promise 3", words = "i no instruction's number")

@@ -1,4 +1,5 @@
-// The sentences of "Terms" that name a boundary case, each instruction where it is done once and in a hot loop.
+// The sentences of "Terms", on either side of the boundaries that they name; each instruction where it is done once and
+// in a hot loop.
 public final class TermsBoundariesTest extends Boundaries {
     private static final int[][] INTS = {intOf(MIN), intOf(-1), intOf(0), intOf(1), intOf(MAX)};
 
@@ -122,7 +123,7 @@ public final class TermsBoundariesTest extends Boundaries {
         }
     }
 
-    @Sentence(in = "Terms, ADD v a b", words = "v becomes the int a + b (wrapping as in Java)")
+    @Sentence(in = "Terms, ADD v a b", words = "if a and b are ints: v becomes the int a + b (wrapping as in Java)")
     static void addWraps(int threshold) {
         for (int[] a : INTS) {
             for (int[] b : INTS) {
@@ -204,7 +205,7 @@ public final class TermsBoundariesTest extends Boundaries {
         }
     }
 
-    @Sentence(in = "Terms, LESS v a b", words = "the flag that says whether a < b")
+    @Sentence(in = "Terms, LESS v a b", words = "if a and b are ints: the flag that says whether a < b")
     static void lessOnEitherSideOfEqual(int threshold) {
         for (int[] a : INTS) {
             for (int[] b : INTS) {
@@ -383,6 +384,51 @@ public final class TermsBoundariesTest extends Boundaries {
         due(m.place(), 24);
     }
 
+    @Sentence(in = "Terms",
+        words = "A machine has variables, an output, and the number of the instruction that is next (its PLACE)")
+    static void eachMachineHasItsOwn(int threshold) {
+        Machine waiting = amidTheLoop(threshold);
+        String before = waiting.look();
+        Machine first = counting(threshold);
+        Machine second = counting(threshold);
+        due(second.replace(2, LET, 2, 5), 2);
+        due(second.emit(PRINT, 5, 0, 0), 9);
+        second.put(5, 77);
+        for (int i = 0; i < 5; i++) {
+            due(first.run(7), READY);
+            due(second.run(4), READY);
+        }
+        due(first.count(), 35);
+        due(second.count(), 20);
+        due(first.run(300), ENDED);
+        due(second.run(300), ENDED);
+        due(first.place(), 8);
+        due(second.place(), 9);
+        due(first.printed(), 10);
+        due(second.printed(), 6);
+        due(second.output(5), 309);
+        dueVariable(first, 5, 0, 0);
+        dueVariable(second, 5, 1, 77);
+        second.restart();
+        due(first.printed(), 10);
+        due(waiting.look(), before);
+    }
+
+    @Sentence(in = "Terms", words = "its STATUS is READY, ENDED or FAULT.")
+    static void statusIsOneOfThree(int threshold) {
+        Machine ends = new Machine(threshold);
+        due(ends.status(), READY);
+        due(ends.run(1), ENDED);
+        due(ends.status(), ENDED);
+        Machine faults = new Machine(threshold);
+        faults.emit(LESS, 0, 0, 0);
+        due(faults.status(), READY);
+        due(faults.run(1), FAULT);
+        due(faults.status(), FAULT);
+        // All three are told apart.
+        due(READY != ENDED && ENDED != FAULT && FAULT != READY, true);
+    }
+
     @Sentence(in = "Terms", words = "To DO a step: if the status is not READY, nothing")
     static void noStepUnlessReady(int threshold) {
         Machine ended = ended(threshold);
@@ -468,6 +514,49 @@ public final class TermsBoundariesTest extends Boundaries {
         due(late.run(1), READY);
         due(late.value(0), 8);
         due(late.count(), 2);
+    }
+
+    @Sentence(in = "Terms", words = "if the instruction at the place is one that must FAULT, the status becomes FAULT")
+    static void onlyAddSubAndLessFault(int threshold) {
+        int[][] values = {NOTHING, intOf(0), FALSE};
+        for (int op = 0; op <= 10; op++) {
+            for (int[] a : values) {
+                for (int[] b : values) {
+                    boolean ints = a == values[1] && b == values[1];
+                    boolean flags = a == values[2] && b == values[2];
+                    boolean good = ints || op == ADD && flags || op != ADD && op != SUB && op != LESS;
+                    Machine m = new Machine(threshold);
+                    emitValue(m, 1, a);
+                    emitValue(m, 2, b);
+                    m.emit(op, 1, 1, 2);
+                    due(m.run(2), READY);
+                    // An instruction that must FAULT is next, yet no step has come to it.
+                    due(m.run(0), READY);
+                    due(m.run(1), good ? READY : FAULT);
+                    due(m.count(), good ? 3 : 2);
+                }
+            }
+        }
+    }
+
+    @Sentence(in = "Terms", words = "if the instruction at the place is one that must FAULT")
+    static void noFaultWhereThePlaceDoesNotCome(int threshold) {
+        // In a loop around it that is hot, too.
+        Machine m = new Machine(threshold);
+        m.emit(PRINT, 5, 0, 0);
+        m.emit(JUMP, 3, 0, 0);
+        m.emit(SUB, 0, 5, 5);
+        m.emit(UNLESS, 5, 0, 0);
+        m.emit(LESS, 0, 5, 5);
+        due(m.run(300), READY);
+        due(m.place(), 0);
+        due(m.printed(), 100);
+        // The flag true is let past the UNLESS, so that the place does come to one.
+        due(m.replace(0, FLAG, 5, 1), 0);
+        due(m.run(3), READY);
+        due(m.place(), 4);
+        due(m.run(1), FAULT);
+        due(m.count(), 303);
     }
 
     @Sentence(in = "Terms", words = "the status becomes FAULT and nothing else changes")
