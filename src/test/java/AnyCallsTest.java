@@ -5,8 +5,8 @@ import java.util.Arrays;
 public final class AnyCallsTest {
     private static final int OBJECTS = 360;
     private static final int CALLS = 3000;
-    private static final int[] ODD = {Integer.MIN_VALUE, Integer.MIN_VALUE + 1, -65536, -256, -25, -1, 6, 11, 24, 25, 32,
-        255, 300, 301, 65536, Integer.MAX_VALUE - 1, Integer.MAX_VALUE};
+    private static final int[] ODD = {Integer.MIN_VALUE, Integer.MIN_VALUE + 1, -65536, -256, -25, -1, 6, 11, 24, 25,
+        32, 255, 300, 301, 65536, Integer.MAX_VALUE - 1, Integer.MAX_VALUE};
     private static final int[] THRESHOLDS = {Integer.MIN_VALUE, 0, 1, 2, 3, 4, 5, 6, Integer.MAX_VALUE};
 
     private static long seed = 512;

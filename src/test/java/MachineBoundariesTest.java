@@ -1,5 +1,5 @@
-// The sentences of promises 1 and 4 to 14, on either side of the boundaries that they name, and the number of calls that
-// an object is for.
+// The sentences of promises 1 and 4 to 14, on either side of the boundaries that they name, and the number of calls
+// that an object is for.
 public final class MachineBoundariesTest extends Boundaries {
     public static void main(String[] args) throws IllegalAccessException {
         runAll(MachineBoundariesTest.class);
